@@ -549,6 +549,11 @@ public final class PromisesTest {
         due("20: hands(0, -1)", x.hands(0, -1), NONE);
         x.toss(14);
         due("20: KEPT cards alone", x.hands(2, 0), NONE);
+        x.card(1, 0, 4, 0);
+        Due.taken(x, 1, "person 1 by 0;", 1);
+        due("20: straight", x.hands(4, 0), 1);
+        due("20: straight", x.hands(4, 1), 1);
+        due("20: he is the first one", x.hands(4, 2), 1);
     }
 
     private static void ledAndRoot() {

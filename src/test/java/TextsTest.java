@@ -27,6 +27,13 @@ public final class TextsTest {
         Due.refused(x, 0, "Holds 1;", 1, 0);
         Due.refused(x, 0, "holdsX 1;", 1, 0);
         Due.refused(x, 0, "holdsholds 1;", 1, 0);
+        for (char c : new char[] {'a', 'z', 'A', 'Z'}) {
+            Due.refused(x, 0, "holds" + c + " 1;", 1, 0);
+        }
+        for (char c : new char[] {'@', '[', '`', '{'}) {
+            Due.refused(x, 0, "holds" + c + " 1;", 1, 5);
+        }
+        Due.refused(x, 0, "holds 1:;", 1, 7);
         Due.refused(x, 0, "hold s 1;", 1, 0);
         Due.refused(x, 0, "holds 1.;", 1, 7);
         Due.refused(x, 0, "holds 1\u00e9;", 1, 7);
