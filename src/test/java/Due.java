@@ -2,8 +2,18 @@
 final class Due {
     private static int wrong = 0;
     private static int asked = 0;
+    private static String part = "";
 
     private Due() {
+    }
+
+    /** What stands ahead of each wrong answer that is printed from now on. */
+    static void part(String name) {
+        part = name;
+    }
+
+    static int askedSoFar() {
+        return asked;
     }
 
     static void due(String call, long got, long want) {
@@ -11,7 +21,7 @@ final class Due {
         if (got != want) {
             wrong++;
             if (wrong <= 50) {
-                System.out.println(call + " answered " + got + ", due is " + want);
+                System.out.println(part + call + " answered " + got + ", due is " + want);
             }
         }
     }
