@@ -155,6 +155,22 @@ public final class EdgesOfDeedsTest {
         due("-257: 16777214 modulo 6", lackedFrom(-257), 2);
     }
 
+    private static int answeredFrom(int highest, int holds) {
+        CardDrawer x = one("holds " + holds + ";");
+        x.state(Draws.before(highest * 256));
+        return x.ring(3);
+    }
+
+    private static void promise02DrawOf1000GoesRound() {
+        due("999 below 999", answeredFrom(999, 999), 0);
+        due("1000 is 0: below 1", answeredFrom(1000, 1), 1);
+        due("1001 is 1: not below 1", answeredFrom(1001, 1), 0);
+        due("1999 is 999: not below 999", answeredFrom(1999, 999), 0);
+        due("2000 is 0: below 1", answeredFrom(2000, 1), 1);
+        due("the greatest, 16777215, is 215: not below 215", answeredFrom(16777215, 215), 0);
+        due("the greatest, 16777215, is 215: below 216", answeredFrom(16777215, 216), 1);
+    }
+
     // ---- 3: card
 
     private static void promise03LeastAndGreatestOfEach() {

@@ -512,6 +512,32 @@ public final class EdgesOfMemoryTest {
         due("A PLAN", x.of(2, 4), 1);
     }
 
+    private static void promise36TextsThatWereToldAnew() {
+        CardDrawer x = with(2);
+        Due.taken(x, 0, "worth 5*6+7 when person=1;worth 8;dust 9;", 3);
+        Due.taken(x, 1, "person 0 by 3;person 1 by 2;", 2);
+        Due.taken(x, 2, "firm 0 from 4 to 5;firm 1 from 2 to 3;", 2);
+        Due.taken(x, 3, "in 0 bend 1;in 0 throw 1;", 2);
+        x.image(true);
+        Due.taken(x, 0, "holds 1+2+3+4+5+6+7+8+9;worth 44;", 2);
+        Due.taken(x, 1, "person 2 by 1;", 1);
+        Due.taken(x, 2, "firm 2 from 7 to 8;", 1);
+        Due.taken(x, 3, "in 0 throw 2;", 1);
+        x.image(false);
+        due("worth of 1", x.of(1, 10), 37);
+        due("worth of 0", x.of(0, 10), 8);
+        due("dust", x.of(0, 9), 9);
+        due("holds", x.of(0, 8), 900);
+        due("met(0)", x.met(0), 3);
+        due("met(2)", x.met(2), NONE);
+        due("called(0, 1)", x.called(0, 1), 5);
+        due("called(2, 1)", x.called(2, 1), 99);
+        x.years(1);
+        line(x, 0, 0, 3, 1, 1);
+        line(x, 1, 0, 2, 0, 8);
+        due("look(5)", x.look(5), 2);
+    }
+
     private static void promise36TheTapeAndFaultStay() {
         CardDrawer x = with(1);
         Due.write(x, "dust 1/0;");

@@ -372,6 +372,88 @@ public final class EdgesOfTextsTest {
         Due.refused(x, 3, "in 1 person 2;", 1, 5);
     }
 
+    private static void promise11EveryKeywordOfAnotherTextCanNotStandThere() {
+        CardDrawer x = told();
+        for (String word : "by from to in throw ring bend find".split(" ")) {
+            Due.refused(x, 0, word + " 1;", 1, 0);
+            Due.refused(x, 0, "dust " + word + ";", 1, 5);
+            Due.refused(x, 0, "dust 1 " + word + " 1=1;", 1, 7);
+        }
+        for (String word : "holds dust worth when or and not trade year bent worn rung age now firm from to in find".split(" ")) {
+            Due.refused(x, 1, word + " 1 by 2;", 1, 0);
+            Due.refused(x, 1, "person 1 " + word + " 2;", 1, 9);
+        }
+        for (String word : "holds when not person trade now by in throw".split(" ")) {
+            Due.refused(x, 2, word + " 1 from 2 to 3;", 1, 0);
+            Due.refused(x, 2, "firm 1 " + word + " 2 to 3;", 1, 7);
+            Due.refused(x, 2, "firm 1 from 2 " + word + " 3;", 1, 14);
+        }
+        for (String word : "holds when not person firm now by from to".split(" ")) {
+            Due.refused(x, 3, word + " 1 ring 2;", 1, 0);
+            Due.refused(x, 3, "in 1 " + word + " 2;", 1, 5);
+        }
+        allStands(x);
+    }
+
+    private static void promise11EveryKeywordOfTheLawStandsInItsPlaceAlone() {
+        CardDrawer x = told();
+        for (String word : "holds dust worth".split(" ")) {
+            Due.taken(x, 0, word + " 1;", 1);
+            Due.refused(x, 0, "dust " + word + ";", 1, 5);
+        }
+        for (String word : "person firm trade year bent worn rung age now".split(" ")) {
+            Due.taken(x, 0, "dust " + word + " when " + word + "=" + word + ";", 1);
+            Due.refused(x, 0, word + " 1;", 1, 0);
+        }
+        for (String word : "when or and not".split(" ")) {
+            Due.refused(x, 0, "dust " + word + ";", 1, 5);
+            Due.refused(x, 0, word + " 1;", 1, 0);
+        }
+    }
+
+    private static void promise11FourHundredTokens() {
+        CardDrawer x = told();
+        Due.refused(x, 0, ";".repeat(400), 1, 0);
+        Due.refused(x, 0, "dust1" + "+1".repeat(197) + "+", 1, 400);
+        Due.taken(x, 0, "dust1" + "+1".repeat(197) + ";", 1);
+        due("198 is held to 99", x.of(0, 9), 99);
+        Due.taken(x, 0, "worth 1" + "+1".repeat(196) + ";", 1);
+        due("197", x.of(0, 10), 197);
+    }
+
+    private static void promise11FaultOnEitherSideOfAComparison() {
+        CardDrawer x = told();
+        Due.refused(x, 0, "dust 1 when 1/0<2;", 2, 14);
+        Due.refused(x, 0, "dust 1 when 1<2/0;", 2, 16);
+        Due.refused(x, 0, "dust 1 when 1/1<2/1 or 3/0<2;", 2, 25);
+        Due.refused(x, 0, "dust 1 when (1/0<2);", 2, 15);
+        Due.refused(x, 0, "dust 1 when not 1/0<2;", 2, 18);
+        Due.refused(x, 0, "dust 1 when (1<2/0);", 2, 17);
+    }
+
+    private static void promise11ANewTextLeavesNothingOfTheOldOne() {
+        CardDrawer x = new CardDrawer();
+        Due.taken(x, 1, "person 0 by 11;person 11 by 10;person 5 by 6;", 3);
+        Due.taken(x, 1, "person 6 by 5;", 1);
+        for (int person = 0; person < 12; person++) {
+            due("met(" + person + ")", x.met(person), person == 6 ? 5 : NONE);
+        }
+        Due.taken(x, 2, "firm 0 from 1 to 2;firm 7 from 3 to 4;firm 5 from 6 to 7;", 3);
+        Due.taken(x, 2, "firm 6 from 8 to 9;", 1);
+        for (int firm = 0; firm < 8; firm++) {
+            due("called(" + firm + ", 0)", x.called(firm, 0), firm == 6 ? 8 : 0);
+            due("called(" + firm + ", 1)", x.called(firm, 1), firm == 6 ? 9 : 99);
+        }
+    }
+
+    private static void promise11ALongLawCanBeToldAnewAgainAndAgain() {
+        CardDrawer x = told();
+        for (int i = 0; i < 12; i++) {
+            Due.taken(x, 0, "worth " + i + "+1".repeat(190) + ";", 1);
+            due("of(0, 10)", x.of(0, 10), i + 190);
+        }
+    }
+
     private static void promise11NumbersHaveFourDigitsAtMost() {
         CardDrawer x = told();
         Due.taken(x, 0, "worth 9999;", 1);
@@ -741,6 +823,13 @@ public final class EdgesOfTextsTest {
         due("none is so", told("worth 1 when 1=2;".repeat(16), 10), 92);
         due("another word's", told("dust 1;holds 2;", 10), 92);
         due("a word's first", told("dust 1;worth 2;dust 3;", 9), 1);
+    }
+
+    private static void promise13TheSixteenthLineByItsOwnWordsAlone() {
+        String fifteen = "worth 1 when 1=2;".repeat(15);
+        due("a sum of products", told(fifteen + "worth 2*3+4*5*6/7+8*9;", 10), 6 + 17 + 72);
+        due("it is so", told(fifteen + "worth 5 when 2*3+4*5=2+4*6 and(1=2 or 1=1 and 1*2<1+1*2);", 10), 5);
+        due("it is not so", told(fifteen + "worth 5 when 2*3+4*5=2+4*6 and(1=2 or 1=1 and 1*3<1+1*2);", 10), 92);
     }
 
     private static void promise13ComparedWithOneLessAndOneMore() {

@@ -157,6 +157,32 @@ public final class EdgesOfThoughtTest {
         due("twelve", x.goes(60, 3), 12);
     }
 
+    private static void promise17WhatAPlanSaysIsDoneInThought() {
+        CardDrawer x = people(3, 4);
+        Due.taken(x, 0, "holds 1000;dust 0;", 2);
+        Due.taken(x, 3, "in 1 throw 2;in 1 ring 3;in 2 find 1;in 2 find 0;in 3 throw 1;in 99 throw 14;", 6);
+        int[] kept = {2, 0, 2, 1, 1};
+        for (int n = 1; n <= 5; n++) {
+            due("goes(" + n + ", 3)", x.goes(n, 3), kept[n - 1]);
+        }
+        x.set(0, 0, 98);
+        due("98", x.goes(1, 3), 2);
+        due("99", x.goes(2, 3), 0);
+        due("look(5)", x.look(5), 3);
+    }
+
+    private static void promise17AgeGoesOnBehind99() {
+        CardDrawer x = new CardDrawer();
+        x.card(0, 0, 3, 90);
+        x.set(0, 0, 99);
+        Due.taken(x, 0, "dust 99 when now=100;dust 99 when age=10;dust 0;", 3);
+        due("99", x.goes(1, 3), 1);
+        due("100", x.goes(2, 3), 0);
+        Due.taken(x, 0, "dust 99 when age=68;dust 0;", 2);
+        due("157", x.goes(59, 3), 1);
+        due("158", x.goes(60, 3), 0);
+    }
+
     // ---- 18: ahead
 
     private static void promise18CardsThatThereAreNot() {
@@ -410,6 +436,22 @@ public final class EdgesOfThoughtTest {
         CardDrawer x = met("person 1 by 0;person 2 by 1;person 5 by 0;person 9 by 5;person 2 by 9;");
         x.card(9, 0, 0, 0);
         hands(x, 2, 9, 5);
+    }
+
+    private static void promise20WhatMetIsNoMore() {
+        CardDrawer x = met("person 7 by 0;person 5 by 7;");
+        x.card(5, 0, 0, 0);
+        hands(x, 2, 5, 7);
+        due("hears(0, 0)", x.hears(0, 0), 1 | 32 | 128);
+        due("tells(1)", x.tells(1), 32);
+        Due.taken(x, 1, "person 5 by 6;", 1);
+        hands(x, NONE, NONE, NONE);
+        due("hears(0, 0)", x.hears(0, 0), 1);
+        due("hears(0, 7)", x.hears(0, 7), 128);
+        due("hears(0, 5)", x.hears(0, 5), 32 | 64);
+        due("tells(1)", x.tells(1), 32);
+        Due.taken(x, 1, "", 0);
+        due("hears(0, 5)", x.hears(0, 5), 32);
     }
 
     // ---- 21: led
@@ -721,6 +763,31 @@ public final class EdgesOfThoughtTest {
         keeps(x, 4, 2, 5);
         x.toss(1);
         keeps(x, 2, 2, 6);
+    }
+
+    private static void promise26TheLeastWhateverIsAskedFirst() {
+        CardDrawer x = people(1, 2, 3);
+        x.asks(0, 3);
+        x.asks(0, 2);
+        x.asks(0, 1);
+        keeps(x, 1, 1, 1);
+        keeps(x, 2, 2, 3);
+        keeps(x, 3, 3, 7);
+    }
+
+    private static void promise26TheLeastOfTwoForTheSameQuestions() {
+        // The third card finds all but the last question; the first and the second one find that, too.
+        CardDrawer x = new CardDrawer();
+        x.card(1, 5, 2, 0);
+        x.card(2, 5, 1, 0);
+        x.card(2, 4, 2, 0);
+        x.asks(0, 2);
+        x.asks(2, 2);
+        x.asks(1, 4);
+        x.asks(1, 5);
+        keeps(x, 1, 3, 4);
+        keeps(x, 2, 4, 5);
+        keeps(x, 3, 4, 5);
     }
 
     // ---- 27: sorted
