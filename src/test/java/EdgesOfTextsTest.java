@@ -842,6 +842,51 @@ public final class EdgesOfTextsTest {
         due("8 > age", told("worth 1 when 8>age;worth 2;", 10), 1);
     }
 
+    /** Whether a line with this B is so. */
+    private static void so(String b, boolean so) {
+        due(b, told("worth 1 when " + b + ";worth 2;", 10), so ? 1 : 2);
+    }
+
+    private static void promise13OneOfSeveralOrIsEnough() {
+        so("1=1 or 1=2 or 1=3", true);
+        so("1=2 or 1=1 or 1=3", true);
+        so("1=2 or 1=3 or 1=1", true);
+        so("1=2 or 1=3 or 1=4", false);
+        so("1=1 or 1=2 or 1=3 or 1=4", true);
+    }
+
+    private static void promise13EachOfSeveralAndIsNeeded() {
+        so("1=1 and 2=2 and 3=3", true);
+        so("1=2 and 2=2 and 3=3", false);
+        so("1=1 and 2=1 and 3=3", false);
+        so("1=1 and 2=2 and 3=1", false);
+    }
+
+    private static void promise13AndBindsMoreThanOr() {
+        so("1=1 or 1=1 and 1=2", true);
+        so("1=2 and 1=1 or 1=1", true);
+        so("1=2 and 1=2 or 1=2 or 1=1 and 1=1", true);
+        so("1=1 and 1=1 or 1=2 and 1=2 or 1=2", true);
+        so("1=1 and 1=2 or 1=2 or 1=2 and 1=1", false);
+        so("(1=1 or 1=1) and 1=2", false);
+    }
+
+    private static void promise13NotIsOfOneCAlone() {
+        for (String c : new String[] {"1<2", "2>1", "1=1"}) {
+            so(c, true);
+            so("not " + c, false);
+            so("not not " + c, true);
+            so("not(" + c + ")", false);
+            so(c + " and 1=1", true);
+            so("1=1 and " + c, true);
+            so("not " + c + " or 1=1", true);
+            so("not 1=2 and " + c, true);
+            so("not (1=2 and " + c + ")", true);
+            so("not not not not not not not " + c, false);
+            so("not not not not not not not not " + c, true);
+        }
+    }
+
     private static void promise13BelowZeroIsCompared() {
         due("0-1<0", told("worth 1 when 0-1<0;worth 2;", 10), 1);
         due("0-1<0-1", told("worth 1 when 0-1<0-1;worth 2;", 10), 2);
