@@ -906,6 +906,8 @@ public final class EdgesOfTextsTest {
     }
 
     private static void promise13PartsGoTowards0() {
+        due("7/1", told("worth 7/1;", 10), 7);
+        due("0/1", told("worth 0/1;", 10), 0);
         due("7/2", told("worth 7/2;", 10), 3);
         due("8/9", told("worth 8/9;", 10), 0);
         due("9/9", told("worth 9/9;", 10), 1);
