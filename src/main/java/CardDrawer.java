@@ -261,15 +261,12 @@ public final class CardDrawer {
 
     /** Who introduced a person. */
     public int met(int person) {
-        return within(person, PEOPLE) ? told.by[person] : NONE;
+        return told.introducer(person);
     }
 
     /** From when (0) and till when (1) a firm is called so. */
     public int called(int firm, int what) {
-        if (!within(firm, FIRMS) || !within(what, 2)) {
-            return NONE;
-        }
-        return what == 0 ? told.from[firm] : told.till[firm];
+        return what == 0 ? told.firstYear(firm) : what == 1 ? told.lastYear(firm) : NONE;
     }
 
     /** Line i of the book. */
@@ -542,11 +539,13 @@ public final class CardDrawer {
         }
 
         int read(int card, int what) {
-            return borne[what * CARDS + card];
+            return within(card, CARDS) && within(what, BORNE) ? borne[what * CARDS + card] : NONE;
         }
 
         void write(int card, int what, int v) {
-            borne[what * CARDS + card] = v;
+            if (within(card, CARDS) && within(what, BORNE)) {
+                borne[what * CARDS + card] = v;
+            }
         }
 
         /** The caller has looked that there is room. */
@@ -592,10 +591,9 @@ public final class CardDrawer {
             return people;
         }
 
-        /** A draw of m, which is above 0. */
         int draw(int m) {
             draws = draws * 1664525 + 1013904223;
-            return (draws >>> 8) % m;
+            return m > 0 ? (draws >>> 8) % m : 0;
         }
     }
 
@@ -761,9 +759,9 @@ public final class CardDrawer {
     /** All that is told beside the cards: the four texts, what came ahead, questions, notes. */
     private static final class Told {
         final Law law = new Law();
-        final int[] by = new int[PEOPLE];
-        final int[] from = new int[FIRMS];
-        final int[] till = new int[FIRMS];
+        private final int[] by = new int[PEOPLE];
+        private final int[] from = new int[FIRMS];
+        private final int[] till = new int[FIRMS];
         final Rows plan = new Rows(LINES);
         final Rows ahead = new Rows(12);
         final Rows asked = new Rows(10);
@@ -791,6 +789,18 @@ public final class CardDrawer {
             noted.copyFrom(other.noted);
             metLines = other.metLines;
             calledLines = other.calledLines;
+        }
+
+        int introducer(int person) {
+            return within(person, PEOPLE) ? by[person] : NONE;
+        }
+
+        int firstYear(int firm) {
+            return within(firm, FIRMS) ? from[firm] : NONE;
+        }
+
+        int lastYear(int firm) {
+            return within(firm, FIRMS) ? till[firm] : NONE;
         }
 
         void take(int which, Reader reader) {
@@ -843,9 +853,8 @@ public final class CardDrawer {
             return length + more <= TAPE;
         }
 
-        /** The caller has looked that there is room. */
         void append(int four) {
-            for (int shift = 24; shift >= 0; shift -= 8) {
+            for (int shift = 24; shift >= 0 && hasRoom(1); shift -= 8) {
                 bytes[length] = four >>> shift & 255;
                 length++;
             }
@@ -1430,8 +1439,8 @@ public final class CardDrawer {
         boolean narrow() {
             for (int card = 0; card < drawer.cards; card++) {
                 int firm = drawer.read(card, FIRM);
-                least[card] = told.from[firm];
-                greatest[card] = told.till[firm];
+                least[card] = told.firstYear(firm);
+                greatest[card] = told.lastYear(firm);
             }
             // A way along what is told has fewer steps than there are cards.
             for (int round = 0; round < CARDS; round++) {
@@ -1477,7 +1486,7 @@ public final class CardDrawer {
             }
             int all = 0;
             for (int person = 0; person < PEOPLE; person++) {
-                int by = told.by[person];
+                int by = told.introducer(person);
                 if (within(by, PEOPLE)) {
                     near[person] |= 1 << by;
                     near[by] |= 1 << person;
@@ -1549,7 +1558,7 @@ public final class CardDrawer {
             int set = 1 << leader;
             for (int round = 0; round < PEOPLE; round++) {
                 for (int person = 0; person < PEOPLE; person++) {
-                    int by = told.by[person];
+                    int by = told.introducer(person);
                     if (by != NONE && holdsBit(set, by)) {
                         set |= 1 << person;
                     }
@@ -1563,7 +1572,7 @@ public final class CardDrawer {
             int one = person;
             for (int step = 0; step < PEOPLE; step++) {
                 seen |= 1 << one;
-                int by = told.by[one];
+                int by = told.introducer(one);
                 if (!within(by, PEOPLE)) {
                     return one;
                 }
